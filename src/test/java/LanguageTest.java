@@ -97,7 +97,7 @@ public final class LanguageTest {
             expect(!seen.find(), "the text holds " + word);
         }
         expect(code.chars().allMatch(sign -> sign < 128), "the text holds a sign above 127");
-        Matcher methods = Pattern.compile("(?m)^( {4}| {8})(?:public|private) [^=;\n]*\\{\n(?s:(.*?))\n\\1\\}\n").matcher(code);
+        Matcher methods = Pattern.compile("(?m)^( {4}| {8})(?:public|private) (?!static final class)[^=;\n]*\\{\n(?s:(.*?))\n\\1\\}\n").matcher(code);
         while (methods.find()) {
             if (!methods.group().contains(" class ")) {
                 int lines = methods.group().split("\n").length;
