@@ -4,11 +4,15 @@ import java.lang.reflect.Modifier;
 
 /** A run of calls on one new object, each written as text with the answer that is due (a boolean counts 1 or 0). */
 final class Calls {
+    /** What an object answers behind so many calls is free: a run that is longer would test nothing. */
+    private static final int MOST_CALLS = 512;
+
     private static int wrong = 0;
     private static int made = 0;
 
     private final String title;
     private final ParkRows park = new ParkRows();
+    private int madeHere = 0;
 
     private Calls(String title) {
         this.title = title;
@@ -19,11 +23,40 @@ final class Calls {
     }
 
     Calls due(String call, int want) {
-        made++;
-        String got = answer(call);
+        String got = told(call);
         if (!got.equals(String.valueOf(want))) {
-            wrong++;
-            System.out.println(title + ": " + call + " answered " + got + ", due is " + want);
+            isWrong(call + " answered " + got + ", due is " + want);
+        }
+        return this;
+    }
+
+    /** What the call answers, as text, without any answer that is due. */
+    String told(String call) {
+        made++;
+        madeHere++;
+        if (madeHere == MOST_CALLS + 1) {
+            isWrong("this run has more than " + MOST_CALLS + " calls");
+        }
+        return answer(call);
+    }
+
+    void isWrong(String what) {
+        wrong++;
+        System.out.println(title + ": " + what);
+    }
+
+    /** So many groups more, all of the same number of people; the first of them gets the number first. */
+    Calls groups(int first, int howMany, int people) {
+        for (int i = 0; i < howMany; i++) {
+            due("group(" + people + ")", first + i);
+        }
+        return this;
+    }
+
+    /** The same call for each number from first to last in place of its sign #, with answers that go on by one from want. */
+    Calls dueInOrder(String call, int first, int last, int want) {
+        for (int i = first; i <= last; i++) {
+            due(call.replace("#", String.valueOf(i)), want + i - first);
         }
         return this;
     }

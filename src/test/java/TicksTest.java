@@ -159,21 +159,8 @@ public final class TicksTest {
             .due("rideOf(0, 12)", 1);
     }
 
-    /** TICK 5, the first of the window; groups 0 to 3, of many people each, are back at ride 0 in this order. */
-    private static Calls withBack(String title, String ride, int... many) {
-        Calls calls = Calls.onNew(title).due(ride, 0);
-        for (int i = 0; i < many.length; i++) {
-            calls.due("group(" + many[i] + ")", i).due("take(" + i + ", 0)", 1);
-        }
-        calls.due("ticks(5)", 0);
-        for (int i = 0; i < many.length; i++) {
-            calls.due("come(" + i + ", 0)", i);
-        }
-        return calls;
-    }
-
     private static void backFillsThePart() {
-        withBack("promise 14, (1) those back, in order, as long as the next one fits into the part",
+        Scenes.withBack("promise 14, (1) those back, in order, as long as the next one fits into the part",
                 "ride(8, 1, 4, 0, 0)", 2, 3, 1)
             .due("group(4)", 3).due("group(3)", 4)
             .due("stand(3, 0)", 0).due("stand(4, 0)", 1)
@@ -187,7 +174,7 @@ public final class TicksTest {
     }
 
     private static void standingFillsTheSeats() {
-        withBack("promise 14, (2) those who stand take what is left of the seats, of the part, too",
+        Scenes.withBack("promise 14, (2) those who stand take what is left of the seats, of the part, too",
                 "ride(8, 1, 4, 0, 0)", 1)
             .due("group(4)", 1).due("group(3)", 2).due("group(1)", 3)
             .due("stand(1, 0)", 0).due("stand(2, 0)", 1).due("stand(3, 0)", 2)
@@ -197,7 +184,7 @@ public final class TicksTest {
     }
 
     private static void backFillsWhatIsLeft() {
-        withBack("promise 14, (3) those back take what is left, as long as the next one fits",
+        Scenes.withBack("promise 14, (3) those back take what is left, as long as the next one fits",
                 "ride(8, 1, 2, 0, 0)", 3, 1, 5, 1)
             .due("group(2)", 4)
             .due("stand(4, 0)", 0)
@@ -231,7 +218,7 @@ public final class TicksTest {
             .due("stand(0, 0)", 0).due("stand(1, 0)", 1).due("stand(2, 0)", 2)
             .due("ticks(1)", 4)
             .due("ticks(1)", 4);
-        withBack("promise 14, (4) groups of one that are back behind a greater one wait",
+        Scenes.withBack("promise 14, (4) groups of one that are back behind a greater one wait",
                 "ride(4, 1, 2, 0, 1)", 3, 4, 1)
             .due("ticks(1)", 3)
             .dueEach("groupOf(#, 1)", 0, 3, 2, 2);
@@ -308,15 +295,8 @@ public final class TicksTest {
     }
 
     private static void movedAmongFortyWindows() {
-        Calls calls = Calls.onNew("promise 14, forty windows behind the one that ended, then an any")
-            .due("ride(1, 1, 1, 4, 0)", 0);
-        for (int i = 0; i < 21; i++) {
-            calls.due("group(1)", i);
-        }
-        for (int i = 0; i < 20; i++) {
-            calls.due("take(" + i + ", 0)", 2 * i + 1).due("take(" + i + ", 0)", 2 * i + 2);
-        }
-        calls.due("ticks(5)", 0)
+        Scenes.withFortyFullWindows("promise 14, forty windows behind the one that ended, then an any")
+            .due("ticks(5)", 0)
             .due("stop(0, true)", 1)
             .due("ticks(5)", 0)
             .due("time(0, 0, 1)", 41)

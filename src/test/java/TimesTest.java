@@ -73,15 +73,8 @@ public final class TimesTest {
     }
 
     private static void takeLooksAtFortyWindows() {
-        Calls calls = Calls.onNew("promise 6, forty windows and no more")
-            .due("ride(1, 1, 1, 4, 0)", 0);
-        for (int i = 0; i < 21; i++) {
-            calls.due("group(1)", i);
-        }
-        for (int i = 0; i < 20; i++) {
-            calls.due("take(" + i + ", 0)", 2 * i + 1).due("take(" + i + ", 0)", 2 * i + 2);
-        }
-        calls.due("free(20, 0)", -3)
+        Scenes.withFortyFullWindows("promise 6, forty windows and no more")
+            .due("free(20, 0)", -3)
             .due("take(20, 0)", -3)
             .due("window(0, 40, 0)", 1)
             .due("window(0, 41, 0)", 0)
