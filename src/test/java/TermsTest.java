@@ -482,11 +482,11 @@ public final class TermsTest {
             .dueEach("groupOf(#, 1)", 0, 2, 3);
         document.says("(4) of a SINGLE: groups of one in the STANDING row, in order, wherever they stand, as long as a seat is left.")
             .due("ride(5, 1, 0, 0, 1)", 0)
-            .due("group(3)", 0).due("group(3)", 1).due("group(1)", 2).due("group(2)", 3).due("group(1)", 4).due("group(1)", 5)
+            .due("group(3)", 0).due("group(3)", 1).due("group(2)", 2).groups(3, 3, 1)
             .dueInOrder("stand(#, 0)", 0, 5, 0)
             .due("ticks(1)", 5)
-            .dueEach("groupOf(#, 1)", 0, 3, 1, 3, 1, 3, 1)
-            .dueEach("row(0, false, #)", 0, 1, 3, 5, -9);
+            .dueEach("groupOf(#, 1)", 0, 3, 1, 1, 3, 3, 1)
+            .dueEach("row(0, false, #)", 0, 1, 2, 5, -9);
         Scenes.withBack(document.says("They are ON."), "ride(6, 1, 1, 0, 1)", 1, 2)
             .due("group(2)", 2).due("group(4)", 3).due("group(1)", 4)
             .dueInOrder("stand(#, 0)", 2, 4, 0)
@@ -637,9 +637,9 @@ public final class TermsTest {
             .due("ticks(1)", 3).due("groupOf(2, 1)", 3);
         document.says("it is told by going through: the SEATS that are left, SEATS less PART, are filled from the STANDING row as in (2).")
             .due("ride(8, 1, 3, 0, 0)", 0)
-            .due("group(4)", 0).due("group(1)", 1).due("group(3)", 2).due("group(3)", 3).due("group(2)", 4)
-            .dueInOrder("stand(#, 0)", 0, 4, 0)
-            .dueEach("wait(#)", 0, 1, 1, 2, 3, 3);
+            .due("group(4)", 0).due("group(1)", 1).due("group(3)", 2).due("group(3)", 3).groups(4, 2, 2)
+            .dueInOrder("stand(#, 0)", 0, 5, 0)
+            .dueEach("wait(#)", 0, 1, 1, 2, 3, 3, 4);
     }
 
     private static void refusals() {
