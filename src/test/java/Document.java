@@ -12,6 +12,7 @@ final class Document {
 
     private final String text;
     private int at = 0;
+    private String promise = "";
     private String last = "";
 
     private Document(String text) {
@@ -32,10 +33,16 @@ final class Document {
         return new Document(all.substring(from, to).trim());
     }
 
+    /** The heading of a promise and the call that it promises: many promises have some words alike, so the titles of runs begin with it. */
+    void promise(String heading, String call) {
+        promise = heading + ": ";
+        pass("## " + heading + " `" + call + "`:");
+    }
+
     /** The document's words that come next, and a new run that would fail if they were broken. */
     Calls says(String words) {
-        Calls calls = Calls.onNew(words);
-        last = words;
+        last = promise + words;
+        Calls calls = Calls.onNew(last);
         goOn(words, calls);
         return calls;
     }

@@ -39,7 +39,7 @@ public final class PromisesTest {
     }
 
     private static void aNewObject() {
-        document.pass("## Promise 1: A new object `ParkRows()`:");
+        document.promise("Promise 1: A new object", "ParkRows()");
         document.says("No RIDES,")
             .due("count(1)", 0).due("rideOf(0, 0)", -1).due("row(0, false, 0)", -1).due("ride(1, 1, 0, 0, 0)", 0);
         document.says("no GROUPS,")
@@ -49,7 +49,7 @@ public final class PromisesTest {
     }
 
     private static void ride() {
-        document.pass("## Promise 2: ride `int ride(int seats, int round, int part, int spare, int kind)`:");
+        document.promise("Promise 2: ride", "int ride(int seats, int round, int part, int spare, int kind)");
         document.says("A RIDE that RUNS: its number.")
             .due("ride(7, 3, 2, 5, 3)", 0).due("ride(40, 20, 40, 99, 1)", 1)
             .dueEach("rideOf(0, #)", 0, 7, 3, 2, 5, 3, 1, 0, 0, 0, 0, 0, 0, 0)
@@ -74,7 +74,7 @@ public final class PromisesTest {
     }
 
     private static void group() {
-        document.pass("## Promise 3: group `int group(int many)`:");
+        document.promise("Promise 3: group", "int group(int many)");
         document.says("A GROUP, WALKING: its number.")
             .due("group(3)", 0).due("group(8)", 1).due("group(1)", 2)
             .dueEach("groupOf(#, 0)", 0, 3, 8, 1)
@@ -95,7 +95,7 @@ public final class PromisesTest {
     }
 
     private static void walk() {
-        document.pass("## Promise 4: walk `int walk(int a, int b, int ticks)`:");
+        document.promise("Promise 4: walk", "int walk(int a, int b, int ticks)");
         withThreeRides(document.says("WALK between two RIDES: what it was."))
             .due("walk(0, 1, 5)", 0).due("walk(0, 1, 50)", 5).due("walk(1, 0, 6)", 50)
             .due("walk(0, 2, 4)", 0).due("walk(1, 2, 3)", 0)
@@ -118,7 +118,7 @@ public final class PromisesTest {
     }
 
     private static void part() {
-        document.pass("## Promise 5: part `int part(int ride, int part, int spare)`:");
+        document.promise("Promise 5: part", "int part(int ride, int part, int spare)");
         withThreeRides(document.says("PART and SPARE of a RIDE from now on: 1."))
             .due("part(1, 8, 99)", 1).dueEach("rideOf(1, #)", 2, 8, 99)
             .due("part(1, 3, 4)", 1).dueEach("rideOf(1, #)", 2, 3, 4)
@@ -150,7 +150,7 @@ public final class PromisesTest {
     }
 
     private static void take() {
-        document.pass("## Promise 6: take `int take(int group, int ride)`:");
+        document.promise("Promise 6: take", "int take(int group, int ride)");
         document.says("TAKING a TIME: its WINDOW.")
             .due("ride(8, 2, 2, 4, 0)", 0).due("group(4)", 0).due("group(3)", 1)
             .due("take(0, 0)", 1)
@@ -180,7 +180,7 @@ public final class PromisesTest {
     }
 
     private static void give() {
-        document.pass("## Promise 7: give `int give(int group, int i)`:");
+        document.promise("Promise 7: give", "int give(int group, int i)");
         withThreeRides(document.says("GIVING back TIME i (0, 1) of a GROUP: its WINDOW."))
             .due("group(3)", 0).due("group(2)", 1)
             .due("take(0, 0)", 1).due("take(0, 1)", 2).due("take(1, 0)", 1)
@@ -201,7 +201,7 @@ public final class PromisesTest {
     }
 
     private static void come() {
-        document.pass("## Promise 8: come `int come(int group, int ride)`:");
+        document.promise("Promise 8: come", "int come(int group, int ride)");
         document.says("COMING BACK: its place in that row, from 0 on.")
             .due("ride(8, 1, 2, 0, 0)", 0).groups(0, 4, 1)
             .dueEach("take(#, 0)", 0, 1, 1, 1)
@@ -226,7 +226,7 @@ public final class PromisesTest {
     }
 
     private static void stand() {
-        document.pass("## Promise 9: stand `int stand(int group, int ride)`:");
+        document.promise("Promise 9: stand", "int stand(int group, int ride)");
         withThreeRides(document.says("STANDING: its place in that row."))
             .groups(0, 4, 1)
             .due("stand(2, 0)", 0).due("stand(0, 0)", 1).due("stand(3, 1)", 0)
@@ -251,7 +251,7 @@ public final class PromisesTest {
     }
 
     private static void leave() {
-        document.pass("## Promise 10: leave `int leave(int group)`:");
+        document.promise("Promise 10: leave", "int leave(int group)");
         withThreeRides(document.says("LEAVING: the RIDE."))
             .groups(0, 2, 1)
             .due("stand(0, 2)", 0).due("leave(0)", 2)
@@ -271,7 +271,7 @@ public final class PromisesTest {
     }
 
     private static void go() {
-        document.pass("## Promise 11: go `int go(int group)`:");
+        document.promise("Promise 11: go", "int go(int group)");
         document.says("A WALKING GROUP is GONE;")
             .due("group(3)", 0).due("group(2)", 1)
             .due("go(0)", 0)
@@ -296,7 +296,7 @@ public final class PromisesTest {
     }
 
     private static void stop() {
-        document.pass("## Promise 12: stop `boolean stop(int ride, boolean on)`:");
+        document.promise("Promise 12: stop", "boolean stop(int ride, boolean on)");
         withThreeRides(document.says("A RIDE is STOPPED, or RUNS: true;"))
             .due("stop(1, true)", 1).dueEach("rideOf(#, 5)", 0, 1, 0, 1)
             .due("ticks(2)", 0).dueEach("rideOf(#, 12)", 0, 2, 0, 2)
@@ -319,7 +319,7 @@ public final class PromisesTest {
     }
 
     private static void rain() {
-        document.pass("## Promise 13: rain `boolean rain(boolean on)`:");
+        document.promise("Promise 13: rain", "boolean rain(boolean on)");
         document.says("It rains, or not: true;")
             .due("ride(1, 1, 0, 0, 3)", 0).due("ride(1, 1, 0, 0, 0)", 1)
             .due("rain(true)", 1).dueEach("rideOf(#, 5)", 0, 0, 1)
@@ -331,7 +331,7 @@ public final class PromisesTest {
     }
 
     private static void ticks() {
-        document.pass("## Promise 14: ticks `int ticks(int n)`:");
+        document.promise("Promise 14: ticks", "int ticks(int n)");
         document.says("n TICKS pass:")
             .due("ride(1, 1, 0, 0, 0)", 0)
             .due("ticks(1)", 0).due("count(0)", 1).due("rideOf(0, 12)", 1)
@@ -359,7 +359,7 @@ public final class PromisesTest {
     }
 
     private static void waits() {
-        document.pass("## Promise 15: wait `int wait(int group)`:");
+        document.promise("Promise 15: wait", "int wait(int group)");
         document.says("WAIT.")
             .due("ride(4, 1, 1, 0, 0)", 0).due("group(3)", 0).due("group(2)", 1).due("group(1)", 2).due("group(1)", 3)
             .dueInOrder("stand(#, 0)", 0, 3, 0)
@@ -382,7 +382,7 @@ public final class PromisesTest {
     }
 
     private static void free() {
-        document.pass("## Promise 16: free `int free(int group, int ride)`:");
+        document.promise("Promise 16: free", "int free(int group, int ride)");
         withThreeRides(document.says("The WINDOW that take() would tell;"))
             .due("group(6)", 0).due("group(5)", 1)
             .due("free(0, 0)", 1).due("take(0, 0)", 1)
@@ -414,7 +414,7 @@ public final class PromisesTest {
     }
 
     private static void groupOf() {
-        document.pass("## Promise 17: groupOf `int groupOf(int group, int what)`:");
+        document.promise("Promise 17: groupOf", "int groupOf(int group, int what)");
         document.says("Of a GROUP: 0 how many,")
             .due("group(8)", 0).due("group(1)", 1).dueEach("groupOf(#, 0)", 0, 8, 1);
         Scenes.withEachDoing(document.says("1 what it does,"))
@@ -464,7 +464,7 @@ public final class PromisesTest {
     }
 
     private static void time() {
-        document.pass("## Promise 18: time `int time(int group, int i, int what)`:");
+        document.promise("Promise 18: time", "int time(int group, int i, int what)");
         withThreeRides(document.says("Of TIME i of a GROUP: 0 RIDE,"))
             .groups(0, 1, 1)
             .due("take(0, 2)", 1).due("take(0, 1)", 2)
@@ -493,7 +493,7 @@ public final class PromisesTest {
     }
 
     private static void rideOfWhatItWasMadeWith() {
-        document.pass("## Promise 19: rideOf `int rideOf(int ride, int what)`:");
+        document.promise("Promise 19: rideOf", "int rideOf(int ride, int what)");
         withTwoUnlike(document.says("Of a RIDE: 0 SEATS,")).dueEach("rideOf(#, 0)", 0, 9, 8);
         withTwoUnlike(document.says("1 ROUND,")).dueEach("rideOf(#, 1)", 0, 4, 5);
         withTwoUnlike(document.says("2 PART,")).dueEach("rideOf(#, 2)", 0, 3, 6).due("part(0, 5, 2)", 1).dueEach("rideOf(#, 2)", 0, 5, 6);
@@ -568,7 +568,7 @@ public final class PromisesTest {
     }
 
     private static void window() {
-        document.pass("## Promise 20: window `int window(int ride, int window, int what)`:");
+        document.promise("Promise 20: window", "int window(int ride, int window, int what)");
         withThreeRides(document.says("GIVEN of a WINDOW of a RIDE (what 0),"))
             .due("group(6)", 0).due("group(3)", 1).due("group(5)", 2)
             .due("take(0, 0)", 1).due("take(1, 0)", 1).due("take(2, 0)", 2)
@@ -591,7 +591,7 @@ public final class PromisesTest {
     }
 
     private static void row() {
-        document.pass("## Promise 21: row `int row(int ride, boolean back, int i)`:");
+        document.promise("Promise 21: row", "int row(int ride, boolean back, int i)");
         Scenes.withBack(document.says("GROUP i of the STANDING row of a RIDE,"), "ride(8, 1, 2, 0, 0)", 1, 1)
             .due("ride(8, 1, 2, 0, 0)", 1)
             .groups(2, 3, 1)
@@ -616,7 +616,7 @@ public final class PromisesTest {
     }
 
     private static void count() {
-        document.pass("## Promise 22: count `int count(int what)`:");
+        document.promise("Promise 22: count", "int count(int what)");
         document.says("0 TICK,").due("count(0)", 0).due("ticks(3)", 0).due("count(0)", 3);
         withThreeRides(document.says("1 RIDES,")).due("count(1)", 3);
         document.says("2 GROUPS,").due("count(2)", 0).groups(0, 5, 8).due("count(2)", 5);

@@ -382,6 +382,11 @@ public final class TermsTest {
             .due("come(0, 0)", 0).due("groupOf(0, 4)", 1).due("time(0, 0, 0)", 1)
             .due("stand(1, 1)", 0).due("come(1, 0)", -2)
             .due("leave(1)", 1).due("come(1, 0)", 1).due("groupOf(1, 4)", 0);
+        document.saysSo()
+            .due("ride(8, 20, 2, 0, 0)", 0).due("ride(8, 1, 2, 0, 0)", 1).groups(0, 1, 2)
+            .due("take(0, 0)", 1).due("take(0, 1)", 1)
+            .due("ticks(5)", 0)
+            .due("come(0, 1)", 0).due("groupOf(0, 4)", 1).due("time(0, 0, 0)", 0);
         Scenes.withBack(document.says("(GIVEN stays);"), "ride(8, 1, 2, 0, 0)", 3)
             .due("window(0, 1, 0)", 3)
             .due("ticks(1)", 3).due("window(0, 1, 0)", 3)
@@ -519,13 +524,15 @@ public final class TermsTest {
             .dueEach("groupOf(#, 7)", 0, 0, 1, 0)
             .dueEach("groupOf(#, 8)", 0, 1, 0, 0)
             .dueEach("time(0, #, 1)", 0, 2, 2).due("time(1, 0, 1)", 2);
-        document.says("(its TIMES in their order):")
-            .due("ride(6, 1, 2, 0, 0)", 0).due("group(5)", 0)
-            .due("take(0, 0)", 1).due("take(0, 0)", 2)
-            .due("stop(0, true)", 1)
-            .due("ticks(10)", 0).dueEach("time(0, #, 1)", 0, 2, 2)
+        withTwoTimesInOneWindow(document.says("(its TIMES in their order):"))
             .due("part(0, 1, 0)", 1)
             .due("ticks(5)", 0).dueEach("time(0, #, 1)", 0, 3, 4);
+        withTwoTimesInOneWindow(document.saysSo())
+            .due("part(0, 0, 0)", 1)
+            .due("ticks(5)", 0).dueEach("groupOf(0, #)", 4, 0, 2, 0, 0, 1);
+        withTwoTimesInOneWindow(document.saysSo())
+            .due("stop(0, false)", 1)
+            .due("ticks(5)", 0).dueEach("groupOf(0, #)", 4, 0, 0, 0, 2, 1);
         document.says("if the RIDE does not RUN now")
             .due("ride(8, 1, 2, 0, 0)", 0).due("ride(8, 1, 2, 0, 0)", 1).groups(0, 2, 1)
             .due("take(0, 0)", 1).due("take(1, 1)", 1)
@@ -542,6 +549,14 @@ public final class TermsTest {
             .due("ticks(10)", 0)
             .dueEach("groupOf(#, 8)", 0, 1, 0)
             .dueEach("groupOf(#, 7)", 0, 0, 1);
+    }
+
+    /** TICK 10; ride 0 is stopped; both times of group 0, of five, are in window 2, as the first was moved. */
+    private static Calls withTwoTimesInOneWindow(Calls calls) {
+        return calls.due("ride(6, 1, 2, 0, 0)", 0).due("group(5)", 0)
+            .due("take(0, 0)", 1).due("take(0, 0)", 2)
+            .due("stop(0, true)", 1)
+            .due("ticks(10)", 0).dueEach("time(0, #, 1)", 0, 2, 2);
     }
 
     private static void timesAreMoved() {
